@@ -4,9 +4,12 @@ public final class RopeTrays {
     public static final int NO = -1000000;
 
     private static final int MOST_LETTERS = 100, MOST_LETTER = 255, MOST_NUMBER = 99;
-    private static final int MOST_THINGS = 4, MOST_FLOORS = 7, MOST_WEIGHT = 9;
+    private static final int LEAST_FLOORS = 3, FIRST_FLOORS = 5, MOST_FLOORS = 7;
+    private static final int LEAST_ROOM = 1, FIRST_ROOM = 2, MOST_ROOM = 3;
+    private static final int FIRST_STRONG = 9, MOST_STRONG = 30;
+    private static final int MOST_THINGS = 4, LEAST_WEIGHT = 1, MOST_WEIGHT = 9;
     private static final int MOST_PULLS = 999, MOST_KNOWN = 10, MOST_SEEN = 6, MOST_AGAINST = 40;
-    private static final int IMAGES = 2, KINDS = 6, TRAYS = 2, WAYS = 2;
+    private static final int IMAGES = 2, KINDS = 6, TRAYS = 2, WAYS = 2, SHARES = 3;
     private static final int TENTHS = 10, MOST_N = 20;
 
     /** Where a thing is; ON a tray is the tray's number and 1. */
@@ -208,8 +211,9 @@ public final class RopeTrays {
         int open = told.thingsAt(places.pack, LIES) | told.thingsAt(places.pack, ON) | told.thingsAt(places.pack, ON + 1);
         int upper = 0;
         for (int wanted = 0; wanted <= open; wanted++) {
-            if ((wanted & ~open) == 0) {
-                upper += chancesOf(x, n, wanted, open);
+            int chances = chancesOf(x, wanted, open);
+            if (chances > 0 && search.fewest(told, places, wanted, EITHER_WAY, n) != NONE) {
+                upper += chances;
             }
         }
         int lower = power(TENTHS, Integer.bitCount(open));
@@ -336,42 +340,27 @@ public final class RopeTrays {
         int best = places.pack;
         int bestLeft = MOST_THINGS + 1;
         int bestBy = 0;
-        int ways = power(3, MOST_THINGS);
+        int ways = power(SHARES, MOST_THINGS);
         for (int way = 0; way < ways; way++) {
-            if (shares(way, there)) {
-                int pack = shared(way, there);
-                int left = Integer.bitCount(told.thingsAt(pack, LIES) & there);
-                int by = told.unevenness(pack);
-                if (told.fits(pack) && (left < bestLeft || left == bestLeft && by < bestBy)) {
-                    best = pack;
-                    bestLeft = left;
-                    bestBy = by;
-                }
+            int pack = shared(way, there);
+            int left = Integer.bitCount(told.thingsAt(pack, LIES) & there);
+            int by = told.unevenness(pack);
+            if (told.fits(pack) && (left < bestLeft || left == bestLeft && by < bestBy)) {
+                best = pack;
+                bestLeft = left;
+                bestBy = by;
             }
         }
         return best;
     }
 
-    /** A way has a digit to the base 3 for each thing, thing 0 the highest: tray 0, tray 1, left. */
-    private static int shareOf(int way, int t) {
-        int lower = power(3, MOST_THINGS - 1 - t);
-        return lower > 0 ? way / lower % 3 : 0;
-    }
-
-    /** A thing that isn't there has no share: its digit is 0, lest a way come twice. */
-    private static boolean shares(int way, int there) {
-        for (int t = 0; t < MOST_THINGS; t++) {
-            if ((there >> t & 1) == 0 && shareOf(way, t) != 0) {
-                return false;
-            }
-        }
-        return true;
-    }
-
+    /** A way has a digit for each thing, thing 0 the highest: tray 0, tray 1, left; of one that isn't there it is idle. */
     private int shared(int way, int there) {
         int pack = places.pack;
-        for (int t = 0; t < MOST_THINGS; t++) {
-            int share = shareOf(way, t);
+        int rest = way;
+        for (int t = MOST_THINGS - 1; t >= 0; t--) {
+            int share = rest % SHARES;
+            rest /= SHARES;
             if ((there >> t & 1) == 1 && share < TRAYS) {
                 pack = moved(pack, t, ON + share);
             }
@@ -379,14 +368,13 @@ public final class RopeTrays {
         return pack;
     }
 
-    /** Of the chances (ten for each open thing, multiplied) those by which just these are wanted, if n pulls do. */
-    private int chancesOf(int x, int n, int wanted, int open) {
-        int stay = Integer.bitCount(wanted);
-        int chances = power(TENTHS - x, stay) * power(x, Integer.bitCount(open) - stay);
-        if (chances == 0) {
+    /** Of all chances (ten for each open thing, multiplied) those by which just these are wanted. */
+    private static int chancesOf(int x, int wanted, int open) {
+        if ((wanted & ~open) != 0) {
             return 0;
         }
-        return search.fewest(told, places, wanted, EITHER_WAY, n) == NONE ? 0 : chances;
+        int stay = Integer.bitCount(wanted);
+        return power(TENTHS - x, stay) * power(x, Integer.bitCount(open) - stay);
     }
 
     private static int power(int base, int exponent) {
@@ -411,18 +399,18 @@ public final class RopeTrays {
 
     /** What the text tells, and what follows from it for any floor of tray 0 and any pack. */
     private static final class House {
-        int floors = 5;
-        int room = 2;
-        int strong = 9;
+        int floors = FIRST_FLOORS;
+        int room = FIRST_ROOM;
+        int strong = FIRST_STRONG;
         int things = 0;
         final int[] from = new int[MOST_THINGS];
         final int[] to = new int[MOST_THINGS];
         final int[] weight = new int[MOST_THINGS];
 
         void begin() {
-            floors = 5;
-            room = 2;
-            strong = 9;
+            floors = FIRST_FLOORS;
+            room = FIRST_ROOM;
+            strong = FIRST_STRONG;
             things = 0;
         }
 
@@ -483,16 +471,12 @@ public final class RopeTrays {
             return Math.abs(weightAt(pack, ON) - weightAt(pack, ON + 1));
         }
 
-        private int howManyOn(int pack, int tray) {
-            return Integer.bitCount(thingsAt(pack, ON + tray));
-        }
-
         boolean hasRoom(int pack, int tray) {
-            return howManyOn(pack, tray) < room;
+            return Integer.bitCount(thingsAt(pack, ON + tray)) < room;
         }
 
         boolean fits(int pack) {
-            return howManyOn(pack, 0) <= room && howManyOn(pack, 1) <= room;
+            return Integer.bitCount(thingsAt(pack, ON)) <= room && Integer.bitCount(thingsAt(pack, ON + 1)) <= room;
         }
 
         boolean isEvenEnough(int pack) {
@@ -585,7 +569,6 @@ public final class RopeTrays {
             at = 0;
             items = 0;
             item = NO_ITEM;
-            numbers = 0;
             roomTold = false;
             strongTold = false;
         }
@@ -660,9 +643,9 @@ public final class RopeTrays {
 
         private int leastNumber() {
             switch (item) {
-                case 'f': return 3;
-                case 'r': return 1;
-                case 't': return numbers == 2 ? 1 : 0;
+                case 'f': return LEAST_FLOORS;
+                case 'r': return LEAST_ROOM;
+                case 't': return numbers == 2 ? LEAST_WEIGHT : 0;
                 default: return 0;
             }
         }
@@ -670,9 +653,9 @@ public final class RopeTrays {
         private int greatestNumber() {
             switch (item) {
                 case 'f': return MOST_FLOORS;
-                case 'r': return 3;
+                case 'r': return MOST_ROOM;
                 case 't': return numbers == 2 ? MOST_WEIGHT : draft.floors - 1;
-                default: return 30;
+                default: return MOST_STRONG;
             }
         }
 
@@ -827,7 +810,7 @@ public final class RopeTrays {
 
         int howMany(int strong) {
             int many = 0;
-            for (int weight = 1; weight <= MOST_WEIGHT; weight++) {
+            for (int weight = LEAST_WEIGHT; weight <= MOST_WEIGHT; weight++) {
                 if (canBe(weight, strong)) {
                     many++;
                 }
@@ -836,7 +819,7 @@ public final class RopeTrays {
         }
 
         int least(int strong) {
-            for (int weight = 1; weight <= MOST_WEIGHT; weight++) {
+            for (int weight = LEAST_WEIGHT; weight <= MOST_WEIGHT; weight++) {
                 if (canBe(weight, strong)) {
                     return weight;
                 }
@@ -845,7 +828,7 @@ public final class RopeTrays {
         }
 
         int greatest(int strong) {
-            for (int weight = MOST_WEIGHT; weight >= 1; weight--) {
+            for (int weight = MOST_WEIGHT; weight >= LEAST_WEIGHT; weight--) {
                 if (canBe(weight, strong)) {
                     return weight;
                 }
@@ -873,7 +856,7 @@ public final class RopeTrays {
 
         private int howManyGo(int v, int strong) {
             int many = 0;
-            for (int weight = 1; weight <= MOST_WEIGHT; weight++) {
+            for (int weight = LEAST_WEIGHT; weight <= MOST_WEIGHT; weight++) {
                 if (canBe(weight, strong) && goes(weight, v, strong)) {
                     many++;
                 }

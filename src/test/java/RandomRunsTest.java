@@ -2,7 +2,7 @@ import java.util.Random;
 
 /** Long runs of calls, chosen by fixed seeds, each answer held against Model's: all promises together. */
 public final class RandomRunsTest {
-    private static final int RUNS = 300, CALLS = 512;
+    private static final int RUNS = 1000, CALLS = 512;
     private static final int[] WILD = {Integer.MIN_VALUE, -1000, -2, -1, 0, 1, 2, 3, 4, 5, 6, 7, 20, 21, 31, 32, 33, 40, 41, 64, 255, 256, Integer.MAX_VALUE};
 
     private final Random random;
