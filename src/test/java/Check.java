@@ -2,15 +2,21 @@
 final class Check {
     private static int wrong = 0;
     private static int asked = 0;
+    private static String about = "";
 
     private Check() {
+    }
+
+    /** A sentence of the document that is told with each answer that is wrong. */
+    static void about(String sentence) {
+        about = "\"" + sentence + "\": ";
     }
 
     static void due(String call, long got, long want) {
         asked++;
         if (got != want) {
             wrong++;
-            System.out.println(call + " answered " + got + ", due is " + want);
+            System.out.println(about + call + " answered " + got + ", due is " + want);
         }
     }
 
